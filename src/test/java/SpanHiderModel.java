@@ -5,7 +5,9 @@ import java.util.List;
 // The runs come from a counter-fed mixer, so that they are the same every time.
 public final class SpanHiderModel {
     private static final int RUNS = 300;
+    // The document promises 512 calls; a step makes at most 11 (newShape).
     private static final int CALLS = 512;
+    private static final int CALLS_OF_A_STEP = 11;
     private static final int COLUMNS = 24;
     private static final int ROWS = 12;
 
@@ -17,6 +19,7 @@ public final class SpanHiderModel {
     private final List<List<int[]>> shapes = new ArrayList<>();
     private final List<int[]> planes = new ArrayList<>();
     private long seed;
+    private int calls = 0;
     private final int run;
 
     private SpanHiderModel(int run) {
@@ -35,9 +38,9 @@ public final class SpanHiderModel {
     }
 
     private void play() {
-        for (int call = 0; call < CALLS && wrong < 20; call++) {
+        while (calls + CALLS_OF_A_STEP <= CALLS && wrong < 20) {
             // Every other run begins with many changes, the rest mix them with questions throughout.
-            boolean change = run % 2 == 0 ? call < 80 || upTo(10) == 0 : upTo(2) == 0;
+            boolean change = run % 2 == 0 ? calls < 80 || upTo(10) == 0 : upTo(2) == 0;
             if (change) {
                 change();
             } else {
@@ -47,6 +50,7 @@ public final class SpanHiderModel {
     }
 
     private void due(String call, int got, int want) {
+        calls++;
         if (got != want) {
             wrong++;
             System.out.println("run " + run + ": " + call + " answered " + got + ", due is " + want);
@@ -215,8 +219,10 @@ public final class SpanHiderModel {
                 row ? wantedStart(j, span) : -1); break;
             case 6: due("spanOwner(" + j + ", " + span + ")", hider.spanOwner(j, span),
                 row ? wantedSpanOwner(j, span) : -1); break;
-            case 7: due("owned(" + polygon + ")", hider.owned(polygon), isDrawn(polygon) ? count(polygon, true) : -1); break;
-            case 8: due("covered(" + polygon + ")", hider.covered(polygon), isDrawn(polygon) ? count(polygon, false) : -1); break;
+            case 7: due("owned(" + polygon + ")", hider.owned(polygon),
+                isDrawn(polygon) ? count(polygon, true) : -1); break;
+            case 8: due("covered(" + polygon + ")", hider.covered(polygon),
+                isDrawn(polygon) ? count(polygon, false) : -1); break;
             case 9: due("lit()", hider.lit(), lit()); break;
             default: due("seams()", hider.seams(), seams()); break;
         }

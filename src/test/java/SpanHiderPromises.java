@@ -26,6 +26,7 @@ public final class SpanHiderPromises {
         shiftMoves();
         shiftRefuses();
         refusedShiftChangesNothing();
+        fullPolygonsStayApart();
         tiltTakesTheDraftsPlane();
         drawnCounts();
         ownerIsTheLeastDepth();
@@ -371,6 +372,34 @@ public final class SpanHiderPromises {
         due("7: no further", h.shift(0, 1, 0), -2);
         due("7: back", h.shift(0, -4, 0), 0);
         due("7: no further back", h.shift(0, -1, 0), -2);
+    }
+
+    private static void drawSixOfEightPoints(SpanHider h) {
+        for (int k = 0; k < 6; k++) {
+            int x = 4 * k;
+            draft(h, x, 2, x + 1, 2, x + 2, 2, x + 2, 3, x + 2, 4, x + 1, 4, x, 4, x, 3);
+            due("5: draw of eight points", h.draw(), k);
+        }
+    }
+
+    // Six polygons of eight points are the most there can be: a change of one must not reach the next.
+    private static void fullPolygonsStayApart() {
+        SpanHider h = new SpanHider();
+        drawSixOfEightPoints(h);
+        for (int k = 0; k < 6; k++) {
+            due("7: shift of eight points", h.shift(k, 2, 1), 0);
+            for (int p = 0; p < 6; p++) {
+                due("7: size of " + p, h.covered(p), 4);
+                due("7: corner of " + p, h.covers(p, 4 * p + (p <= k ? 2 : 0), p <= k ? 3 : 2), 1);
+            }
+        }
+        for (int left = 5; left >= 0; left--) {
+            due("6: remove of eight points", h.remove(0), left);
+            for (int p = 0; p < left; p++) {
+                due("6: size of " + p, h.covered(p), 4);
+                due("6: corner of " + p, h.covers(p, 4 * (p + 6 - left) + 2, 3), 1);
+            }
+        }
     }
 
     private static void tiltTakesTheDraftsPlane() {
