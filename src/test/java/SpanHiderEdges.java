@@ -79,6 +79,7 @@ public final class SpanHiderEdges {
         test("Terms: the one with the least depth there", SpanHiderEdges::leastDepthOwns);
         test("Terms: among several with that depth the one with the least number", SpanHiderEdges::leastNumberOwns);
         test("Terms: a greatest stretch of neighbouring columns", SpanHiderEdges::spansAreGreatest);
+        test("Terms: or all have none", SpanHiderEdges::spansOfNone);
         test("Terms: numbered 0, 1, 2, .. from the left", SpanHiderEdges::everyColumnASpan);
         test("Terms: there is always at least one", SpanHiderEdges::alwaysOneSpan);
     }
@@ -698,6 +699,21 @@ public final class SpanHiderEdges {
         due("spans(1)", h.spans(1), 4);
         due("spanStart(1, 2)", h.spanStart(1, 2), 8);
         due("spanStart(1, 3)", h.spanStart(1, 3), 12);
+    }
+
+    private static void spansOfNone() {
+        SpanHider h = upright();
+        due("spans(0) with none on both sides", h.spans(0), 3);
+        due("spanStart(0, 1)", h.spanStart(0, 1), 8);
+        due("spanStart(0, 2)", h.spanStart(0, 2), 16);
+        h.shift(0, -8, 0);
+        due("spans(0) with none on the right", h.spans(0), 2);
+        due("spanOwner(0, 1)", h.spanOwner(0, 1), -3);
+        h.shift(0, 16, 0);
+        due("spans(0) with none on the left", h.spans(0), 2);
+        due("spanOwner(0, 0)", h.spanOwner(0, 0), -3);
+        h.remove(0);
+        due("spans(0) of none at all", h.spans(0), 1);
     }
 
     private static void everyColumnASpan() {
